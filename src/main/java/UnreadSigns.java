@@ -198,10 +198,12 @@ public final class UnreadSigns {
     }
 
     public int comes() {
+        freshenScript();
         return findTapePiece() ? reading.foundTimes() : NONE;
     }
 
     public int next() {
+        freshenScript();
         return findTapePiece() ? reading.followers() : NONE;
     }
 
@@ -327,7 +329,11 @@ public final class UnreadSigns {
         if (name != NONE && !roll.has(name)) {
             return NONE;
         }
-        freshenWays();
+        freshenGrid();
+        if (staleWays) {
+            choices.settle();
+            staleWays = false;
+        }
         return name == NONE ? choices.found() : choices.firstWord(name);
     }
 
@@ -406,7 +412,6 @@ public final class UnreadSigns {
     }
 
     private boolean findTapePiece() {
-        freshenScript();
         int length = tape.used();
         boolean good = length >= 1 && length <= WORD_SIGNS;
         for (int i = 0; i < length && good; i++) {
@@ -440,9 +445,21 @@ public final class UnreadSigns {
     }
 
     private void freshenScript() {
-        if (!staleScript) {
-            return;
+        if (staleScript) {
+            settleScript();
         }
+    }
+
+    private void freshenGrid() {
+        if (staleScript) {
+            settleScript();
+        }
+        if (staleGrid) {
+            settleGrid();
+        }
+    }
+
+    private void settleScript() {
         book.settleSigns(hand);
         reading.settle(quarry, book, hand.settingOf(WAY));
         lexicon.settle(reading, hand.settingOf(RISE));
@@ -453,25 +470,13 @@ public final class UnreadSigns {
         staleGrid = true;
     }
 
-    private void freshenGrid() {
-        freshenScript();
-        if (!staleGrid) {
-            return;
-        }
+    private void settleGrid() {
         lines.settle(book, hand);
         files.settle(book, hand);
         values.settle(book, hand, lines, files);
         match.settle();
         staleGrid = false;
         staleWays = true;
-    }
-
-    private void freshenWays() {
-        freshenGrid();
-        if (staleWays) {
-            choices.settle();
-            staleWays = false;
-        }
     }
 
     private static int faultAt(int place, int kind) {
@@ -955,7 +960,7 @@ public final class UnreadSigns {
         }
 
         int syllableAt(int name, int k) {
-            return k >= 0 && k < lengthOf(name) ? syllables[name * WORD_SIGNS + k] : NONE;
+            return has(name) && k >= 0 && k < lengths[name] ? syllables[name * WORD_SIGNS + k] : NONE;
         }
     }
 
@@ -1245,8 +1250,8 @@ public final class UnreadSigns {
             foundCount = 0;
             pieceLength = 1;
             for (int at = 0; at < MAX_ROWS; at++) {
-                for (int k = 0; k < lengths[at]; k++) {
-                    if (signAt(at, k) == sign && foundCount < found.length) {
+                for (int k = 0; k < lengths[at] && k < ROW_PLACES; k++) {
+                    if (signs[at * ROW_PLACES + k] == sign && foundCount < found.length) {
                         found[foundCount] = at * ROW_PLACES + k;
                         foundCount++;
                     }
@@ -1268,7 +1273,10 @@ public final class UnreadSigns {
 
         /** The SIGN right behind the PIECE that begins there, NONE at the end of the ROW. */
         private int signBehind(int begin) {
-            return signAt(begin / ROW_PLACES, begin % ROW_PLACES + pieceLength);
+            int at = begin / ROW_PLACES;
+            int k = begin % ROW_PLACES + pieceLength;
+            boolean inside = at >= 0 && at < MAX_ROWS && k < lengths[at];
+            return inside ? signs[at * ROW_PLACES + k] : NONE;
         }
 
         int foundTimes() {
@@ -1321,7 +1329,8 @@ public final class UnreadSigns {
         }
 
         private static int signOfKey(long key, int k) {
-            return k >= 0 && k < WORD_SIGNS ? (int) ((key >>> shiftOf(k)) & SIGN_MASK) - 1 : NONE;
+            boolean inside = k >= 0 && k < WORD_SIGNS;
+            return inside ? (int) (key >>> SIGN_BITS * (WORD_SIGNS - 1 - k) & SIGN_MASK) - 1 : NONE;
         }
 
         private static int lengthOfKey(long key) {
@@ -1917,13 +1926,21 @@ public final class UnreadSigns {
                     int otherSign = lexicon.signAt(otherWord, j);
                     int otherSyllable = names.syllableAt(otherName, j);
                     if ((sign == otherSign) != (syllable == otherSyllable)
-                            || lines.together(sign, otherSign) && syllable / VOWEL_KINDS != otherSyllable / VOWEL_KINDS
-                            || files.together(sign, otherSign) && syllable % VOWEL_KINDS != otherSyllable % VOWEL_KINDS) {
+                            || lines.together(sign, otherSign) && !sameConsonant(syllable, otherSyllable)
+                            || files.together(sign, otherSign) && !sameVowel(syllable, otherSyllable)) {
                         return false;
                     }
                 }
             }
             return true;
+        }
+
+        private static boolean sameConsonant(int one, int other) {
+            return one / VOWEL_KINDS == other / VOWEL_KINDS;
+        }
+
+        private static boolean sameVowel(int one, int other) {
+            return one % VOWEL_KINDS == other % VOWEL_KINDS;
         }
 
         /** NAMES get their WORDS by their order, so the first WAY that is found is the first one. */
