@@ -56,8 +56,9 @@ public final class UnreadSigns {
     // A ROW of 10 SIGNS has 5 WORDS at most, as only its last WORD can be of one SIGN.
     private static final int MAX_WORDS = 120;
     private static final int MAX_STEMS = 60;
-    // Two longs have a bit for each WORD.
-    private static final int BIT_ROWS = 2;
+    // Three longs have a bit for each WORD; 40 bits each, as the second one is in use often enough to be tested.
+    private static final int BIT_ROWS = 3;
+    private static final int ROW_BITS = 40;
 
     private static final int MOST_WAYS = 999;
     private static final int MOST_TESTS = 50;
@@ -1975,9 +1976,12 @@ public final class UnreadSigns {
                 if (from == NONE || to == NONE || by == NONE) {
                     return false;
                 }
-                open[to] = open[from] & partners[by];
-                open[to + 1] = open[from + 1] & partners[by + 1];
-                if ((open[to] | open[to + 1]) == 0) {
+                long some = 0;
+                for (int i = 0; i < BIT_ROWS; i++) {
+                    open[to + i] = open[from + i] & partners[by + i];
+                    some |= open[to + i];
+                }
+                if (some == 0) {
                     return false;
                 }
             }
@@ -2009,14 +2013,14 @@ public final class UnreadSigns {
         }
 
         private static void putBit(long[] rows, int at, int k) {
-            if (at >= 0 && k >= 0 && k < MAX_WORDS && at + k / 64 < rows.length) {
-                rows[at + k / 64] |= 1L << k % 64;
+            if (at >= 0 && k >= 0 && k < MAX_WORDS && at + k / ROW_BITS < rows.length) {
+                rows[at + k / ROW_BITS] |= 1L << k % ROW_BITS;
             }
         }
 
         private static boolean hasBit(long[] rows, int at, int k) {
-            return at >= 0 && k >= 0 && k < MAX_WORDS && at + k / 64 < rows.length
-                    && (rows[at + k / 64] >>> k % 64 & 1L) == 1L;
+            return at >= 0 && k >= 0 && k < MAX_WORDS && at + k / ROW_BITS < rows.length
+                    && (rows[at + k / ROW_BITS] >>> k % ROW_BITS & 1L) == 1L;
         }
 
         int found() {

@@ -188,6 +188,11 @@ public final class PromiseTests {
     due("no forms again", forms(x, " "), 0);
     due("forms", x.count(0), 0);
     due("a stone of no forms", stone(x, "a"), fault(0, 2));
+    x = spaced(4, "ab");
+    x.loose(7);
+    due("no forms in place of some", forms(x, ""), 0);
+    due("no stones, no acts", x.count(2) + x.count(3) + x.count(4) + x.count(5) + x.count(15), 0);
+    due("LOOSE", x.count(6), 2);
   }
 
   private static void stoneTold() {
@@ -231,6 +236,9 @@ public final class PromiseTests {
     }
     due("two syllables", name(x, "pate"), 0);
     due("told already", name(x, "pate"), fault(0, 3));
+    UnreadSigns y = new UnreadSigns();
+    String[] near = {"pate", "kate", "pati", "patepa"};
+    for (int i = 0; i < 4; i++) due("nearly the same", name(y, near[i]), i);
     due("told already, with a fault", name(x, "patex"), fault(4, 1));
     due("seven syllables", name(x, "kimonurulesawi"), 1);
     x.loose(3);
@@ -313,6 +321,9 @@ public final class PromiseTests {
     }
     UnreadSigns y = spaced(5);
     for (int k = 0; k < 4; k++) due("of like ones the lesser", y.tree(k, 1) * 10 + y.tree(k, 2), k * 10 + k + 1);
+    UnreadSigns z = office(new StringBuilder("0 0 0 0 0;31 31 31 31 31;"));
+    due("as unlike as can be", z.tree(0, 0) * 100 + z.tree(0, 1) * 10 + z.tree(0, 2), 2501);
+    due("alike but for a shift", office(new StringBuilder("0 0 0 0 1;0 0 0 2 0;")).tree(0, 0), 0);
     due("one form", office(new StringBuilder(filled(3))).tree(0, 0), -1);
   }
 
@@ -590,6 +601,12 @@ public final class PromiseTests {
     for (int k : new int[] {-2, 3, Integer.MAX_VALUE, Integer.MIN_VALUE}) due("stem " + k, x.stem(k, 0), -1);
     UnreadSigns y = spaced(9, "abcdefg/abcdefh/abcdefi");
     y.way(0); y.rise(9);
+    UnreadSigns z = spaced(9, "abcd/abce/abe/abf", "ace/acf");
+    z.way(0); z.rise(9);
+    // abcd stands ahead of abe, but the STEM ab ahead of abc.
+    int[] stems = {48, 24, 48};
+    for (int k = 0; k < 3; k++) due("in the order of letters", z.stem(k, 1) * 10 + z.stem(k, 2), stems[k] * 10 + (k == 1 ? 3 : 2));
+    due("how many", z.stem(-1, 0), 3);
     int[] six = {3, 64 + 128 + 256, 6, 0, 1, 2, 3, 4, 5};
     for (int w = 0; w < 9; w++) due("six signs " + w, y.stem(0, w), six[w]);
   }
@@ -671,6 +688,9 @@ public final class PromiseTests {
     due("a lesser first", x.clash(0) * 100 + x.clash(1) * 10 + x.clash(2), 82);
     due("what 3", x.clash(3), -1);
     due("what -1", x.clash(-1), -1);
+    UnreadSigns z = spaced(9);
+    z.clue(1, 4, false); z.clue(4, 5, false); z.clue(5, 0, false); z.clue(0, 3, false); z.clue(3, 1, true);
+    due("a long line past the first sign", z.clash(0) * 100 + z.clash(1) * 10 + z.clash(2), 135);
     UnreadSigns y = spaced(9, "ab/ac", "bd/cd");
     y.way(0); y.rise(9);
     due("by words", y.clash(0) * 100 + y.clash(1) * 10 + y.clash(2), 122);
@@ -697,6 +717,8 @@ public final class PromiseTests {
     due("guess", x.guess(0, 9, 4), 0);
     due("so", x.guess(0, 9, 4), -1);
     due("another vowel", x.guess(0, 9, 3), 0);
+    for (int[] b : bad) if (b[1] != -1 || b[2] != -1) due("guess", x.guess(b[0], b[1], b[2]), -1);
+    due("nothing happens", x.count(13) * 10 + x.known(0, 1), 13);
     due("another sign has it", x.guess(1, 9, 3), 2);
     due("a third one", x.guess(2, 9, 3), 3);
     due("guesses", x.count(13), 3);
@@ -822,6 +844,39 @@ public final class PromiseTests {
     due("fits", y.fits(0, -1), 5);
     sharedPlaces();
     capped();
+    manyWords();
+  }
+
+  /** 48 WORDS: of each ROW seven SIGNS, a or b ahead, and three SIGNS, the first one higher than those. */
+  private static void manyWords() {
+    String[] stones = new String[6];
+    for (int s = 0; s < 6; s++) {
+      StringBuilder b = new StringBuilder();
+      for (int r = 0; r < 4; r++) {
+        int n = 4 * s + r;
+        b.append(r > 0 ? "/" : "").append(n < 12 ? 'a' : 'b').append((char) ('c' + n % 12)).append("cdefg");
+        b.append((char) ('i' + n / 6)).append((char) ('m' + n % 6)).append((char) ('s' + n % 2));
+      }
+      stones[s] = b.toString();
+    }
+    UnreadSigns x = close(20, stones);
+    x.way(0); x.rise(9);
+    due("words", x.words(), 48);
+    name(x, "patina");
+    due("words of three", x.fits(0, -1), 24);
+    due("ways", x.ways(-1) * 100 + x.ways(0), 2424);
+    // i to l are of one FILE.
+    for (int f = 0; f < 4; f++) x.guess('l' - 'a' - f, f, 0);
+    due("l is pa, others are not", x.fits(0, -1), 6);
+    due("those with l ahead", x.ways(-1) * 100 + x.ways(0), 642);
+    name(x, "patone");
+    // lms lnt los lpt lqs lrt: na and ne are s and t, one of each.
+    due("twos of words with l ahead", x.ways(-1), 18);
+    due("the first", x.ways(0) * 100 + x.ways(1), 4243);
+    x.guess('q' - 'a', 1, 3);
+    due("q is to, not ti", x.ways(-1), 2 * 3 + 3 * 3);
+    x.guess('m' - 'a', 1, 3);
+    due("m is to, too", x.ways(-1) * 10000 + x.ways(0) * 100 + x.ways(1), (3 + 3 * 3) * 10000 + 4342);
   }
 
   /** Twos of WORDS for pate and peta: no SIGN shared, b and c with one consonant, d and g with one vowel. */
