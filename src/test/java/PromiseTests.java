@@ -1,94 +1,5 @@
 /** For each promise of the document: ordinary inputs, the edges that it names, and wrong inputs. */
-public final class PromiseTests {
-  private static int wrong = 0;
-  private static int right = 0;
-  private static int promise = 0;
-
-  private static void due(String what, long got, long want) {
-    if (got == want) { right++; return; }
-    wrong++;
-    System.out.println("promise " + promise + ": " + what + " answered " + got + ", due is " + want);
-  }
-
-  private static void due(String what, boolean got, boolean want) { due(what, got ? 1 : 0, want ? 1 : 0); }
-
-  // ---- what tests are made with
-
-  /** Puts a text on an empty TAPE. */
-  private static void tell(UnreadSigns x, String text) {
-    x.end(0);
-    for (int at = 0; at < text.length(); at += 20) {
-      int[] n = new int[5];
-      for (int i = 0; i < 20; i++) n[i / 4] = n[i / 4] << 8 | (at + i < text.length() ? text.charAt(at + i) : 0);
-      x.feed(n[0], n[1], n[2], n[3], n[4]);
-    }
-    x.end(text.length());
-  }
-
-  private static int forms(UnreadSigns x, String text) { tell(x, text); return x.forms(); }
-  private static int stone(UnreadSigns x, String text) { tell(x, text); return x.stone(); }
-  private static int name(UnreadSigns x, String text) { tell(x, text); return x.name(); }
-  private static int comes(UnreadSigns x, String text) { tell(x, text); return x.comes(); }
-  private static int next(UnreadSigns x, String text) { tell(x, text); return x.next(); }
-  private static int fault(int place, int kind) { return -2 - (8 * place + kind); }
-
-  /** A FORM of so many dark places, row by row: UNLIKE of two of these is how many one has more. */
-  private static String filled(int dark) {
-    StringBuilder b = new StringBuilder();
-    for (int row = 0; row < 5; row++) {
-      int here = Math.max(0, Math.min(5, dark - 5 * row));
-      b.append(row == 0 ? "" : " ").append((1 << here) - 1);
-    }
-    return b.append(';').toString();
-  }
-
-  /** FORMS that are a SIGN each, till LOOSE is 3: UNLIKE is 3 times how far they are from one another. */
-  private static UnreadSigns spaced(int forms, String... stones) {
-    StringBuilder b = new StringBuilder();
-    for (int i = 0; i < forms; i++) b.append(filled(3 * i));
-    return office(b, stones);
-  }
-
-  /** FORMS that are a SIGN each when LOOSE is 0, as it is here. */
-  private static UnreadSigns close(int forms, String... stones) {
-    StringBuilder b = new StringBuilder();
-    for (int i = 0; i < forms; i++) b.append(filled(i));
-    UnreadSigns x = office(b, stones);
-    x.loose(0);
-    return x;
-  }
-
-  private static UnreadSigns office(StringBuilder forms, String... stones) {
-    UnreadSigns x = new UnreadSigns();
-    int n = forms(x, forms.toString());
-    if (n < 0) throw new IllegalStateException("forms " + n);
-    for (String s : stones) if (stone(x, s) < 0) throw new IllegalStateException("stone " + s);
-    return x;
-  }
-
-  /** The WORDS of the LEXICON, with how often they are. */
-  private static String lexicon(UnreadSigns x) {
-    StringBuilder b = new StringBuilder();
-    for (int k = 0; k < x.words(); k++) {
-      if (k > 0) b.append(' ');
-      for (int i = 0; i < x.word(k, 1); i++) b.append((char) ('a' + x.word(k, 2 + i)));
-      b.append(x.word(k, 0));
-    }
-    return b.toString();
-  }
-
-  private static String row(UnreadSigns x, int stone, int row) {
-    StringBuilder b = new StringBuilder();
-    for (int k = 0; k < x.read(stone, row, -1); k++) b.append((char) ('a' + x.read(stone, row, k)));
-    return b.toString();
-  }
-
-  private static void same(String what, String got, String want) {
-    if (got.equals(want)) { right++; return; }
-    wrong++;
-    System.out.println("promise " + promise + ": " + what + " is " + got + ", due is " + want);
-  }
-
+public final class PromiseTests extends Bench {
   // ---- the promises
 
   private static void aNewObject() {
@@ -1067,7 +978,7 @@ public final class PromiseTests {
   }
 
   private static void run(int number) {
-    promise = number;
+    now = "promise " + number;
     switch (number) {
       case 1: aNewObject(); break;
       case 2: feed(); break;
