@@ -106,6 +106,21 @@ abstract class Bench {
     return x;
   }
 
+  /** 48 WORDS: of each ROW seven SIGNS, a or b ahead, and three SIGNS, the first one higher than those. */
+  static UnreadSigns longLexicon() {
+    String[] stones = new String[6];
+    for (int s = 0; s < 6; s++) {
+      StringBuilder b = new StringBuilder();
+      for (int r = 0; r < 4; r++) {
+        int n = 4 * s + r;
+        b.append(r > 0 ? "/" : "").append(n < 12 ? 'a' : 'b').append((char) ('c' + n % 12)).append("cdefg");
+        b.append((char) ('i' + n / 6)).append((char) ('m' + n % 6)).append((char) ('s' + n % 2));
+      }
+      stones[s] = b.toString();
+    }
+    return rows(20, stones);
+  }
+
   /** An object with something of all kinds, and nothing as it is at first. */
   static UnreadSigns desk() {
     UnreadSigns x = rows(6, "abc/abd", "eb/.fb");

@@ -93,6 +93,12 @@ final class BoundaryGrid extends Bench {
     x.alike(4, 0, false);
     same("of two SIGNS again", places(x, false), "abadaa");
     due("two CLUES", x.clues(false), 2);
+    UnreadSigns y = spaced(6);
+    y.clue(0, 1, true);
+    y.clue(2, 3, true);
+    y.alike(0, 1, true);
+    y.alike(2, 3, true);
+    due("two of one and the same SIGN each", y.clues(true), 0);
   }
 
   // ---- promise 27
@@ -230,6 +236,13 @@ final class BoundaryGrid extends Bench {
     v.clue(1, 3, true);
     v.alike(2, 4, true);
     same("by FORMS of one SIGN", clash(v), "1 3 3");
+    UnreadSigns u = spaced(6);
+    u.clue(1, 4, false);
+    u.clue(4, 5, false);
+    u.clue(5, 0, false);
+    u.clue(0, 3, false);
+    u.clue(3, 1, true);
+    same("past the least SIGN", clash(u), "1 3 5");
   }
 
   @Says("The first CLASH what 0: the lesser SIGN, 1: the other one, 2: LENGTH; -2: there is none. NONE for others.")
@@ -428,6 +441,11 @@ final class BoundaryGrid extends Bench {
     z.alike(0, 1, true);
     z.guess(0, 1, 1);
     due("two FORMS of one SIGN", z.guess(1, 1, 1), 0);
+    UnreadSigns w = spaced(6);
+    w.clue(0, 1, true);
+    w.clue(0, 2, true);
+    due("the same vowel, no consonants", w.guess(0, 1, 1), 0);
+    same("of two SIGNS a vowel alone is KNOWN", known(w), "te -e -e -- -- --");
   }
 
   @Says("What is KNOWN of a FORM'S SIGN what 0: the consonant, 1: the vowel (NONE each), 2: 1 if it is DISPUTED, else 0. NONE without these.")

@@ -1,5 +1,6 @@
 import java.util.ArrayList;
 import java.util.List;
+import java.util.Random;
 
 /** Boundary cases of promises 33 to 39: NAMES and the WORDS that FIT, WAYS, TESTS, ACTS undone, and counts. */
 final class BoundaryNames extends Bench {
@@ -69,6 +70,9 @@ final class BoundaryNames extends Bench {
       due("name " + n, x.fits(n, 0), -1);
     }
     due("no WORDS", withNames(new UnreadSigns(), "pate").fits(0, -1), 0);
+    UnreadSigns z = withNames(longLexicon(), "patina", "patekimonuruli");
+    due("24 of 48", z.fits(0, -1) * 10000 + z.fits(0, 0) * 100 + z.fits(0, 23), 242447);
+    due("no 25th", z.fits(0, 24), -1);
     due("no NAMES", rows(6, "ab").fits(0, -1), -1);
     UnreadSigns y = withNames(rows(6, "ab"), "pate", "peta", "pita", "pota");
     due("the last NAME", y.fits(3, -1) * 10 + y.fits(3, 0), 10);
@@ -110,6 +114,16 @@ final class BoundaryNames extends Bench {
     y.guess(1, 1, 1);
     y.guess(2, 2, 2);
     due("two WORDS, two NAMES", y.hits(), 2);
+    name(y, "pateki");
+    due("another NAME, none of its length", y.hits(), 2);
+    UnreadSigns w = rows(6, "ab");
+    w.guess(0, 0, 0);
+    w.guess(1, 1, 1);
+    due("no NAMES", w.hits(), 0);
+    name(w, "pate");
+    due("a NAME that is told later", w.hits(), 1);
+    forms(w, "");
+    due("no WORDS", w.hits(), 0);
     UnreadSigns z = withNames(rows(6, "ab"), "papa");
     z.guess(0, 0, 0);
     z.guess(1, 0, 0);
@@ -167,6 +181,49 @@ final class BoundaryNames extends Bench {
     same("as they are KNOWN", waysOf(z), "2: 0");
   }
 
+  /** 24 WORDS of three SIGNS, eight of them ahead of 24 WORDS of seven SIGNS, the others behind these. */
+  private static UnreadSigns atBothEnds(Random by) {
+    String[] stones = new String[6];
+    for (int n = 0; n < 24; n++) {
+      char first = n < 8 ? (char) ('a' + n % 5) : (char) ('m' + n % 8), second = first, third = first;
+      while (second == first) second = (char) ('a' + by.nextInt(20));
+      while (third == first || third == second) third = (char) ('a' + by.nextInt(20));
+      String row = "" + (n < 12 ? 'j' : 'k') + (char) ('a' + n % 12) + "abcde" + first + second + third;
+      stones[n / 4] = n % 4 == 0 ? row : stones[n / 4] + "/" + row;
+    }
+    return rows(20, stones);
+  }
+
+  /** Whether six unlike SYLLABLES can stand for these letters, by their LINES and FILES. */
+  private static boolean together(String letters, String lines, String files, String syllables) {
+    for (int i = 0; i < 6; i++)
+      for (int j = 0; j < i; j++) {
+        int one = letters.charAt(i) - 'a', other = letters.charAt(j) - 'a';
+        if (one == other) return false;
+        if (lines.charAt(one) == lines.charAt(other) && syllables.charAt(2 * i) != syllables.charAt(2 * j)) return false;
+        if (files.charAt(one) == files.charAt(other) && syllables.charAt(2 * i + 1) != syllables.charAt(2 * j + 1)) return false;
+      }
+    return true;
+  }
+
+  @Says("WAYS: each NAME gets a WORD that FITS it, no two the same")
+  static void promise35_amongManyWords() {
+    for (int seed = 1; seed <= 5; seed++) {
+      UnreadSigns x = withNames(atBothEnds(new Random(seed)), "patina", "pemolu");
+      String[] words = lexicon(x).replaceAll("\\d", "").split(" ");
+      String lines = places(x, false), files = places(x, true);
+      int ways = 0, first = -1;
+      for (int one = 0; one < words.length; one++)
+        for (int other = 0; other < words.length; other++) {
+          boolean right = one != other && words[one].length() == 3 && words[other].length() == 3;
+          if (right && together(words[one] + words[other], lines, files, "patinapemolu") && ways++ == 0) first = 100 * one + other;
+        }
+      due("more than 40 WORDS", words.length > 40, true);
+      due("WAYS", x.ways(-1), ways);
+      due("the first", 100 * x.ways(0) + x.ways(1), first);
+    }
+  }
+
   @Says("999 at most are told.")
   static void promise35_999AtMost() {
     UnreadSigns x = withNames(rows(20, "ab/cd/ef/gh", "ij/kl/mn/op", "qr/st"), "pate", "kimo", "nuse");
@@ -197,6 +254,13 @@ final class BoundaryNames extends Bench {
     UnreadSigns y = withNames(rows(9, "ab/cd/ef"), "pate", "kimo", "nuse");
     y.guess(0, 4, 4);
     same("ab FITS nuse alone", waysOf(y), "2: 1 2 0");
+    UnreadSigns z = withNames(longLexicon(), "patina");
+    for (int f = 0; f < 4; f++) z.guess('l' - 'a' - f, f, 0);
+    // i to l are of one FILE; l is pa: the WORDS 42 to 47.
+    same("of 48 WORDS the last six", waysOf(z), "6: 42");
+    name(z, "patone");
+    // lms lnt los lpt lqs lrt: na and ne are s and t, one of each.
+    same("twos of them", waysOf(z), "18: 42 43");
   }
 
   @Says("WAYS, how many (name NONE; 1 without NAMES)")
@@ -428,6 +492,50 @@ final class BoundaryNames extends Bench {
     due("of 45 the last 20", x.count(15), 20);
     for (int n = 0; n < 20; n++) x.undo();
     due("the 25th stays", x.count(6), 10);
+  }
+
+  @Says("The last 20 can be UNDONE, the last first.")
+  static void promise38_theLast20OfUnlikeKinds() {
+    UnreadSigns x = spaced(6);
+    x.loose(0);
+    x.guess(5, 9, 4);
+    x.way(1);
+    String ahead = seen(x);
+    for (int n = 0; n < 5; n++) {
+      x.alike(0, 5, n % 2 == 0);
+      x.guess(n, n, n);
+      x.clue(n, n == 4 ? 1 : n + 1, n % 2 == 0);
+      x.rise(n + 3);
+    }
+    due("of 23 the last 20", x.count(15), 20);
+    for (int n = 19; n >= 0; n--) due("how many more", x.undo(), n);
+    same("all as it was ahead of them", seen(x), ahead);
+    due("none", x.undo(), -1);
+  }
+
+  private static String seen(UnreadSigns x) {
+    return counts(x, 1, 6, 7, 8, 10, 11, 12, 13, 14) + " " + signs(x) + " " + known(x);
+  }
+
+  @Says("a CLUE by hand; a GUESS (another one of a FORM, or none).")
+  static void promise38_theOnlyClueAndTheOnlyGuess() {
+    UnreadSigns x = spaced(6);
+    x.clue(0, 1, true);
+    due("the only CLUE", x.undo(), 0);
+    same("none is left", counts(x, 14, 10, 11) + " " + x.clues(true), "0 6 6 0");
+    due("it can be told again", x.clue(1, 0, true), 1);
+    UnreadSigns y = withNames(rows(6, "ab"), "pate");
+    y.guess(0, 0, 0);
+    y.guess(1, 1, 1);
+    due("HITS", y.hits(), 1);
+    y.undo();
+    due("HITS behind it", y.hits(), 0);
+    y.guess(1, 1, 1);
+    due("HITS again", y.hits(), 1);
+    y.undo();
+    due("a TEST behind it", y.test(50), 50);
+    y.undo();
+    same("no GUESS is left", counts(y, 13) + " " + known(y), "0 -- -- -- -- -- --");
   }
 
   @Says("STONES and FORMS that are told make that none can be UNDONE.")

@@ -441,6 +441,11 @@ final class BoundarySigns extends Bench {
     due("the last ROW alone", spaced(4, "..a/..b/c").judged(2), 0);
     due("nine more", spaced(4, "a/.........b").judged(2), 1);
     due("six STONES", spaced(4, "a/.b", "a/.b", "a/.b", "a/.b", "a/.b", "a/.b").judged(2), 6);
+    UnreadSigns x = spaced(4, "a/.b", "a/b.");
+    for (int loose = 3; loose < 6; loose++) {
+      x.loose(loose);
+      due("the same, whatever LOOSE is", x.judged(1) * 10 + x.judged(2), 11);
+    }
   }
 
   @Says("ENDS RIGHT: how many unlike SIGNS stand at right ends of ROWS (the last that is no empty place), ENDS LEFT likewise.")

@@ -477,10 +477,13 @@ final class BoundaryTexts extends Bench {
   @Says("The TAPE, which is empty then, tells a STONE more: its number")
   static void promise05_theTapeIsEmptyThen() {
     UnreadSigns x = spaced(3);
+    due("no WORDS", x.words(), 0);
     due("the first", stone(x, "ab"), 0);
     due("the TAPE", x.count(17), 0);
     due("an empty TAPE tells none", x.stone(), fault(0, 1));
+    due("WORDS", x.words(), 1);
     due("the next", stone(x, "ba"), 1);
+    due("WORDS", x.words(), 2);
     same("the first stays", row(x, 0, 0), "ab");
     due("STONES", x.count(2), 2);
   }
@@ -614,11 +617,15 @@ final class BoundaryTexts extends Bench {
 
   @Says("The TAPE, which is empty then, tells a NAME more: its number")
   static void promise06_theTapeIsEmptyThen() {
-    UnreadSigns x = fresh();
+    UnreadSigns x = rows(6, "ab/cd");
+    due("no NAMES", x.ways(-1), 1);
     due("the first", name(x, "kato"), 0);
     due("the TAPE", x.count(17), 0);
+    due("WAYS", x.ways(-1), 2);
     due("an empty TAPE tells none", x.name(), fault(0, 1));
-    due("the next", name(x, "toka"), 1);
+    due("the next", name(x, "sumi"), 1);
+    due("it FITS", x.fits(1, -1), 2);
+    due("the first stays", name(x, "kato"), fault(0, 3));
   }
 
   @Says("its number; -2 - its FAULT, and but for the TAPE nothing happens; NONE, and nothing happens (the TAPE stays, too), if there are 4.")

@@ -250,6 +250,10 @@ final class BoundaryWords extends Bench {
     due("twenty", allBehindA().words(), 20);
     forms(x, filled(0, 3));
     due("no more", x.words(), 0);
+    UnreadSigns z = longLexicon();
+    due("48 unlike ones", z.words() * 100 + z.count(5), 4848);
+    due("how often", z.word(0, 0) + z.word(47, 0), 2);
+    due("the last of them", z.word(47, 1) * 10000 + z.word(47, 2) * 100 + z.word(47, 3), 31117);
   }
 
   // ---- promise 21
@@ -299,6 +303,9 @@ final class BoundaryWords extends Bench {
     for (int k = 0; k < 4; k++) due("all alike", y.rank(k), k);
     UnreadSigns z = rows(5, "c/c/c/b", "b/a");
     for (int k = 0; k < 3; k++) due("turned about", z.rank(k), 2 - k);
+    z.alike(0, 2, true);
+    same("other SIGNS", lexicon(z), "a4 b2");
+    due("anew", z.rank(0) * 10 + z.rank(1), 1);
   }
 
   @Says({"Which WORD of the LEXICON is the k-th (0 the first)", "of like ones by their order; NONE without it."})
@@ -407,6 +414,44 @@ final class BoundaryWords extends Bench {
     due("how many", x.stem(-1, 0), 3);
     UnreadSigns y = rows(6, "abcd/abce/abd/abe");
     due("a beginning ahead of what goes on", y.stem(0, 2) * 10 + y.stem(1, 2), 23);
+    UnreadSigns z = rows(6, "abca/abcb/abd/abe", "acc/acf");
+    due("each with its own ENDINGS", z.stem(0, 1) * 10000 + z.stem(1, 1) * 100 + z.stem(2, 1), 240336);
+    z.loose(0);
+    due("the same again behind another ACT", z.stem(0, 1) * 10000 + z.stem(1, 1) * 100 + z.stem(2, 1), 240336);
+    UnreadSigns w = rows(6, "abc/abd");
+    due("one STEM", w.stem(-1, 0), 1);
+    w.rise(8);
+    due("the same STEM behind another ACT", w.stem(-1, 0), 1);
+    z.alike(3, 4, true);
+    due("another LEXICON, other STEMS", z.stem(-1, 0) * 10000 + z.stem(0, 1) * 100 + z.stem(1, 1), 20336);
+    z.alike(0, 1, true);
+    z.alike(2, 5, true);
+    due("no STEMS", z.stem(-1, 0), 0);
+  }
+
+  @Says("in the order of the LEXICON.")
+  static void promise25_manyStems() {
+    String[] stones = new String[6];
+    for (int s = 0; s < 6; s++) {
+      StringBuilder b = new StringBuilder();
+      for (int r = 0; r < 4; r++) {
+        char first = (char) ('a' + 2 * s + r / 2);
+        b.append(r > 0 ? "/" : "").append(first).append("abcde").append(r % 2 == 0 ? 'f' : 'g');
+        b.append(first).append('t').append(r % 2 == 0 ? 'h' : 'i');
+      }
+      stones[s] = b.toString();
+    }
+    UnreadSigns x = rows(20, stones);
+    due("WORDS", x.words(), 48);
+    due("STEMS", x.stem(-1, 0), 24);
+    for (int k = 0; k < 24; k++) {
+      boolean six = k % 2 == 0;
+      due("ENDINGS of " + k, x.stem(k, 1), six ? 32 + 64 : 128 + 256);
+      due("SIGNS of " + k, x.stem(k, 2), six ? 6 : 2);
+      due("the first SIGN of " + k, x.stem(k, 3), k / 2);
+      due("the next SIGN of " + k, x.stem(k, 4), six ? 0 : 19);
+    }
+    due("no more", x.stem(24, 0), -1);
   }
 
   @Says({"Of the k-th (0 the first) of the STEMS what 0: how many ENDINGS, 1: ENDINGS, as bits, 2: how many SIGNS",

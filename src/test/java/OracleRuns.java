@@ -5,7 +5,8 @@ import java.util.Random;
 /** Runs of calls, made by chance from fixed numbers, on the class and on Oracle: all answers must be the same. */
 public final class OracleRuns {
   private static final int RUNS = Integer.getInteger("runs", 500);
-  private static final int CALLS = 512;
+  /** A run may go on a little behind these, but not beyond 512 calls. */
+  private static final int CALLS = 480;
   private static int wrong = 0;
 
   private final Random by;
@@ -18,6 +19,8 @@ public final class OracleRuns {
   private final boolean steady;
   /** A steady run in which each ROW is a WORD of a language, five letters a consonant, so that WAYS are found. */
   private final boolean planted;
+  /** A planted run in which each ROW is any seven letters and a WORD of three, so that the LEXICON has some 48 WORDS. */
+  private final boolean lengthy;
   private boolean failed = false;
 
   private OracleRuns(long seed) {
@@ -25,6 +28,7 @@ public final class OracleRuns {
     by = new Random(seed * 0x9E3779B97F4A7C15L);
     steady = oneOf(2);
     planted = steady && oneOf(2);
+    lengthy = planted && oneOf(3);
     letters = planted ? 20 : steady ? 3 + by.nextInt(16) : by.nextInt(8) == 0 ? by.nextInt(21) : 2 + by.nextInt(10);
     int consonants = 1 + by.nextInt(10);
     if (planted) {
@@ -104,7 +108,7 @@ public final class OracleRuns {
   private final List<String> pool = new ArrayList<>();
 
   private String plantedWord() {
-    char[] w = new char[2 + (oneOf(2) ? 0 : upTo(2))];
+    char[] w = new char[lengthy ? 3 : 2 + (oneOf(2) ? 0 : upTo(2))];
     for (int i = 0; i < w.length; i++) w[i] = (char) ('a' + upTo(19));
     if (!pool.isEmpty() && !oneOf(3)) w = pool.get(by.nextInt(pool.size())).toCharArray();
     int last = w[w.length - 1] - 'a', first = w[0] - 'a';
@@ -114,7 +118,14 @@ public final class OracleRuns {
     return new String(w);
   }
 
+  private String lengthyRow() {
+    StringBuilder b = new StringBuilder();
+    for (int i = 0; i < 7; i++) b.append((char) ('a' + upTo(19)));
+    return b + plantedWord();
+  }
+
   private String stoneText() {
+    if (lengthy) return spoilt(lengthyRow() + "/" + lengthyRow() + "/" + lengthyRow() + "/" + lengthyRow(), "abt");
     if (planted) return spoilt(plantedWord() + "/" + plantedWord() + "/" + plantedWord() + "/" + plantedWord(), ".");
     if (pool.isEmpty())
       for (int i = 0; i < 6; i++) {
@@ -142,7 +153,7 @@ public final class OracleRuns {
 
   private String nameText() {
     List<String> words = new ArrayList<>();
-    for (String w : o.fresh().lex()) if (w.length() > 1) words.add(w);
+    for (String w : o.fresh().lex()) if (lengthy ? w.length() == 3 : w.length() > 1) words.add(w);
     StringBuilder b = new StringBuilder();
     if (!words.isEmpty() && !oneOf(planted ? 6 : steady ? 2 : 8)) {
       for (char c : words.get(by.nextInt(words.size())).toCharArray()) spell(b, syllables[c - 'a']);
@@ -234,7 +245,7 @@ public final class OracleRuns {
 
   private void emptyTape() {
     o.fresh();
-    while (x.count(17) != 0 && !full()) {
+    while (o.count(17) != 0 && !full()) {
       int n = oneOf(3) ? upTo(3) - 1 : 0;
       same("end " + n, x.end(n), o.end(n));
     }
@@ -270,9 +281,10 @@ public final class OracleRuns {
 
   private void run() {
     if (oneOf(20)) for (int n = 0; n < 40; n++) { ask(); act(); }
-    for (int n = 0; n < 5; n++) if (x.count(0) == 0) tellForms();
+    for (int n = 0; n < 5; n++) if (o.fresh().count(0) == 0) tellForms();
     if (steady || oneOf(3)) { int n = steady ? 0 : upTo(3); o.fresh(); same("loose " + n, x.loose(n), o.loose(n)); }
-    for (int n = oneOf(9) ? 0 : planted ? 5 : 1 + upTo(4); n > 0; n--) tellStone();
+    for (int n = lengthy ? 7 : oneOf(9) ? 0 : planted ? 5 : 1 + upTo(4); n > 0; n--) tellStone();
+    if (lengthy) same("way 0", x.way(0), o.fresh().way(0));
     if (planted) same("rise 9", x.rise(9), o.fresh().rise(9));
     else if (steady && coin()) same("rise 1", x.rise(1), o.fresh().rise(1));
     boolean busy = oneOf(3);

@@ -758,20 +758,8 @@ public final class PromiseTests extends Bench {
     manyWords();
   }
 
-  /** 48 WORDS: of each ROW seven SIGNS, a or b ahead, and three SIGNS, the first one higher than those. */
   private static void manyWords() {
-    String[] stones = new String[6];
-    for (int s = 0; s < 6; s++) {
-      StringBuilder b = new StringBuilder();
-      for (int r = 0; r < 4; r++) {
-        int n = 4 * s + r;
-        b.append(r > 0 ? "/" : "").append(n < 12 ? 'a' : 'b').append((char) ('c' + n % 12)).append("cdefg");
-        b.append((char) ('i' + n / 6)).append((char) ('m' + n % 6)).append((char) ('s' + n % 2));
-      }
-      stones[s] = b.toString();
-    }
-    UnreadSigns x = close(20, stones);
-    x.way(0); x.rise(9);
+    UnreadSigns x = longLexicon();
     due("words", x.words(), 48);
     name(x, "patina");
     due("words of three", x.fits(0, -1), 24);
