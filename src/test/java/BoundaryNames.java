@@ -1,4 +1,5 @@
 import java.util.ArrayList;
+import java.util.Collections;
 import java.util.List;
 import java.util.Random;
 
@@ -222,6 +223,72 @@ final class BoundaryNames extends Bench {
       due("WAYS", x.ways(-1), ways);
       due("the first", 100 * x.ways(0) + x.ways(1), first);
     }
+  }
+
+  /** Whether the SIGNS of these letters may stand for these SYLLABLES, all together, by their LINES and FILES. */
+  private static boolean mayStand(String letters, String syllables, String lines, String files) {
+    for (int i = 0; i < letters.length(); i++)
+      for (int j = 0; j < i; j++) {
+        int one = letters.charAt(i) - 'a', other = letters.charAt(j) - 'a';
+        boolean consonant = syllables.charAt(2 * i) == syllables.charAt(2 * j);
+        boolean vowel = syllables.charAt(2 * i + 1) == syllables.charAt(2 * j + 1);
+        if ((one == other) != (consonant && vowel)) return false;
+        if (lines.charAt(one) == lines.charAt(other) && !consonant) return false;
+        if (files.charAt(one) == files.charAt(other) && !vowel) return false;
+      }
+    return true;
+  }
+
+  /** All WAYS as rows of WORDS, the first one first: each NAME tries each WORD. */
+  private static List<List<Integer>> allWays(UnreadSigns x, String[] names) {
+    String[] words = lexicon(x).replaceAll("\\d", "").split(" ");
+    String lines = places(x, false), files = places(x, true);
+    List<List<Integer>> ways = List.of(List.of());
+    StringBuilder syllables = new StringBuilder();
+    for (String name : names) {
+      syllables.append(name);
+      List<List<Integer>> more = new ArrayList<>();
+      for (List<Integer> way : ways)
+        for (int k = 0; k < words.length; k++) {
+          if (way.contains(k) || words[k].length() * 2 != name.length()) continue;
+          List<Integer> longer = new ArrayList<>(way);
+          longer.add(k);
+          StringBuilder letters = new StringBuilder();
+          for (int word : longer) letters.append(words[word]);
+          if (mayStand(letters.toString(), syllables.toString(), lines, files)) more.add(longer);
+        }
+      ways = more;
+    }
+    return ways;
+  }
+
+  /** WORDS of two SIGNS that end as another one begins; two of them share a beginning, so there is a CLUE, too. */
+  private static String wordsInRings(Random by) {
+    List<Integer> behind = new ArrayList<>();
+    for (int i = 0; i < 12; i++) behind.add(i);
+    Collections.shuffle(behind, by);
+    StringBuilder words = new StringBuilder("am");
+    for (int i = 0; i < 12; i++) {
+      words.append(' ').append((char) ('a' + i)).append((char) ('a' + behind.get(i)));
+    }
+    return words.toString();
+  }
+
+  @Says("so that of all together one SIGN stands for one SYLLABLE and one SYLLABLE for one SIGN")
+  static void promise35_eachTwoOfFourNames() {
+    // NAMES of like length: which WORDS go together hangs on which of both NAMES has which of both WORDS.
+    String[][] told = {{"pate", "tepa", "pako"}, {"pate", "kote", "kosu"}, {"pate", "kimo", "moki"},
+        {"pate", "kote", "kosu", "pasu"}, {"pate", "teko", "kosu", "sumi"}, {"pate", "kimo", "mopa", "kite"}};
+    int some = 0;
+    for (int seed = 1; seed <= 40; seed++)
+      for (String[] names : told) {
+        UnreadSigns x = rowsOfNames(wordsInRings(new Random(seed)), names);
+        List<List<Integer>> ways = allWays(x, names);
+        due("WAYS, " + seed, x.ways(-1), Math.min(999, ways.size()));
+        for (int n = 0; n < names.length; n++) due("the first, " + seed, x.ways(n), ways.isEmpty() ? -2 : ways.get(0).get(n));
+        some += ways.isEmpty() ? 0 : 1;
+      }
+    due("some of them have WAYS", some >= 20, true);
   }
 
   @Says("999 at most are told.")
