@@ -411,6 +411,20 @@ final class BoundaryGrid extends Bench {
     due("a LINE is no matter", unlikeOf(false, 1, 1, 1, 2), 0);
   }
 
+  @Says({"DISPUTE: a SIGN'S LINE has two unlike consonants guessed", "or its FILE two unlike vowels"})
+  static void promise32_disputesStayBehindOtherGuesses() {
+    UnreadSigns x = spaced(9);
+    x.clue(3, 4, false);
+    x.clue(6, 7, true);
+    x.guess(3, 1, 1);
+    due("a LINE", x.guess(4, 2, 2), 2);
+    due("a GUESS of no DISPUTE behind it", x.guess(5, 3, 2), 2);
+    x.guess(6, 4, 0);
+    due("a FILE, too", x.guess(7, 5, 3), 4);
+    due("a GUESS of no DISPUTE behind both", x.guess(8, 6, 4), 4);
+    same("KNOWN", known(x), "-- -- -- te! ti! mi na! ra! lu");
+  }
+
   /** How many are DISPUTED by two GUESSES of two SIGNS of one LINE, or FILE. */
   private static int unlikeOf(boolean file, int consonant, int vowel, int otherConsonant, int otherVowel) {
     UnreadSigns x = spaced(6);

@@ -58,6 +58,22 @@ final class BoundaryNames extends Bench {
   }
 
   @Says("How many WORDS of the LEXICON FIT a NAME (k NONE), the k-th of them (as a WORD of the LEXICON). NONE without these.")
+  static void promise33_fewerWordsThanThereWere() {
+    UnreadSigns x = withNames(rows(6, "ab/cd"), "pate");
+    same("both", fitting(x, 0) + ", " + waysOf(x), "0 1, 2: 0");
+    x.alike(0, 2, true);
+    x.alike(1, 3, true);
+    same("they are one WORD now", lexicon(x), "ab2");
+    due("how many", x.fits(0, -1), 1);
+    due("the first", x.fits(0, 0), 0);
+    due("no other one", x.fits(0, 1), -1);
+    same("WAYS", waysOf(x), "1: 0");
+    x.undo();
+    x.undo();
+    same("both again", fitting(x, 0) + ", " + waysOf(x), "0 1, 2: 0");
+  }
+
+  @Says("How many WORDS of the LEXICON FIT a NAME (k NONE), the k-th of them (as a WORD of the LEXICON). NONE without these.")
   static void promise33_withoutThese() {
     UnreadSigns x = withNames(rows(6, "ab/cd/e"), "pate", "pateki");
     due("how many", x.fits(0, -1), 2);
